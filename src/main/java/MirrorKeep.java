@@ -629,13 +629,11 @@ public final class MirrorKeep {
         }
 
         private static int compare(Entry old, Entry now) {
-            if (old != null && now != null) {
-                return Paths.compare(old.path, now.path);
+            // null is what a tree has behind its last entry.
+            if (old == null) {
+                return 1;
             }
-            if (old == null && now == null) {
-                return 0;
-            }
-            return old != null ? -1 : 1;
+            return now == null ? -1 : Paths.compare(old.path, now.path);
         }
 
         private void note(Entry old, Entry now) {

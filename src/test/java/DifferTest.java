@@ -21,8 +21,10 @@ public final class DifferTest {
         x.cut(3);
         Checks.same("the same again", x.differ(), 0);
         Checks.write(x, 2, "C");
-        Checks.same("content", x.differ(), 1);
-        Checks.write(x, 2, "c");
+        Checks.same("last byte", x.differ(), 1);
+        Checks.write(x, 0, "Abc");
+        Checks.same("first byte", x.differ(), 1);
+        Checks.write(x, 0, "a");
         Checks.same("content as it was", x.differ(), 0);
         x.set(1, 0);
         Checks.same("mode", x.differ(), 1);
