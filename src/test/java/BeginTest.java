@@ -1,115 +1,251 @@
-/** Promise 10: a session of a time is under way, none of its operations is done. */
-public final class BeginTest {
+/** Promise 10: begin. */
+public final class BeginTest extends KeepCases {
+    private static final String BEGUN =
+        "A session of a time is UNDER WAY, none of its OPERATIONS is done: how many it will do.";
+    private static final String TIME =
+        "IllegalArgumentException: the time is below 0 or not above that of the latest session.";
+    private static final String STATES =
+        "IllegalStateException: the repository is not AT REST, or there are 40 sessions. (This first.)";
+
     public static void main(String[] args) {
-        ordinary();
-        countsAllKindsOfChanges();
-        wrongTimes();
-        wrongStates();
-        full();
-        mostOperations();
-        Checks.finish();
+        run(BeginTest.class);
     }
 
-    private static void ordinary() {
-        MirrorKeep x = new MirrorKeep();
-        Checks.same("nothing to change", x.begin(0), 3);
-        Checks.same("state", x.about(0), 1);
-        Checks.same("operations done", x.about(2), 0);
-        Checks.same("sessions", x.about(1), 0);
-        x.step(200);
-        Checks.directory(x, "d");
-        Checks.file(x, "d/f");
-        Checks.same("two new entries", x.begin(1), 7);
-        Checks.same("the mirror is as it was", x.about(4), 0);
-        Checks.same("no increments yet", x.about(7), 0);
+    private void isNoTime(int time) {
+        file("f");
+        keep(10);
+        tape("t");
+        refused(ARGUMENT, "begin(" + time + ")", () -> x.begin(time));
     }
 
-    private static void countsAllKindsOfChanges() {
-        MirrorKeep x = new MirrorKeep();
-        for (String path : new String[] {"a", "b", "c", "d", "e", "f"}) {
-            Checks.file(x, path);
-            Checks.write(x, 0, "one");
-        }
-        Checks.keep(x, 1);
-        Checks.choose(x, "a");
-        x.remove();
-        Checks.link(x, "a");
-        Checks.write(x, 0, "one");
-        Checks.same("another kind", x.differ(), 1);
-        Checks.choose(x, "b");
-        x.set(1, 0);
-        Checks.same("another mode", x.differ(), 2);
-        Checks.choose(x, "c");
-        x.set(0, 1);
-        Checks.same("another time", x.differ(), 3);
-        Checks.choose(x, "d");
-        Checks.write(x, 0, "two");
-        Checks.same("another content of one length", x.differ(), 4);
-        Checks.choose(x, "e");
-        x.cut(2);
-        Checks.same("a shorter content", x.differ(), 5);
-        Checks.same("begin", x.begin(2), 13);
-        x.step(200);
-        Checks.same("the mirror is the source", Checks.tree(x, 1), Checks.tree(x, 0));
-    }
-
-    private static void wrongTimes() {
-        MirrorKeep x = new MirrorKeep();
-        Checks.throwsArgument("below 0", () -> x.begin(-1));
-        Checks.throwsArgument("lowest", () -> x.begin(Integer.MIN_VALUE));
-        Checks.same("at rest still", x.about(0), 0);
-        Checks.keep(x, 10);
-        Checks.throwsArgument("the latest's", () -> x.begin(10));
-        Checks.throwsArgument("earlier", () -> x.begin(9));
-        Checks.throwsArgument("below 0", () -> x.begin(-1));
-        x.begin(11);
-        x.step(1);
-        x.crash();
-        x.regress(200);
-        Checks.same("a session that was undone has no time", x.begin(11), 3);
-        x.step(200);
-        x.prune(11);
-        Checks.throwsArgument("the latest's, behind a prune", () -> x.begin(11));
-        Checks.keep(x, Integer.MAX_VALUE);
-        Checks.throwsArgument("none is above the highest", () -> x.begin(Integer.MAX_VALUE));
-    }
-
-    private static void wrongStates() {
-        MirrorKeep x = new MirrorKeep();
+    @Case(BEGUN)
+    void itIsUnderWayWithNothingDone() {
+        file("f");
         x.begin(5);
-        Checks.throwsState("under way", () -> x.begin(6));
-        Checks.throwsState("under way, a wrong time", () -> x.begin(-1));
+        same("state", x.about(0), UNDER_WAY);
+        same("operations done", x.about(2), 0);
+        same("sessions", x.about(1), 0);
+        same("entries of the mirror", x.about(4), 0);
+        same("increments", x.about(7), 0);
+    }
+
+    @Case(BEGUN)
+    void nothingIsDoneOfALaterSessionEither() {
+        file("f");
+        keep(1);
+        file("g");
+        x.begin(2);
+        same("operations done", x.about(2), 0);
+        same("the mirror", paths(MIRROR), "f");
+    }
+
+    @Case(BEGUN)
+    void nothingIsDoneOfOneBehindARegress() {
+        brokenBehind(5);
+        x.regress(200);
+        same("begin", x.begin(2), 9);
+        same("operations done", x.about(2), 0);
+        same("state", x.about(0), UNDER_WAY);
+    }
+
+    @Case(BEGUN)
+    void withoutChangesItWillDo3() {
+        same("begin", x.begin(1), 3);
+    }
+
+    @Case(BEGUN)
+    void withoutChangesBehindASessionItWillDo3() {
+        file("f");
+        keep(1);
+        same("begin", x.begin(2), 3);
+    }
+
+    @Case(BEGUN)
+    void withOneChangeItWillDo5() {
+        file("f");
+        same("begin", x.begin(1), 5);
+    }
+
+    @Case(BEGUN)
+    void with60ChangesItWillDo123() {
+        sixty("d");
+        same("begin", x.begin(1), 123);
+    }
+
+    @Case(BEGUN)
+    void with120ChangesItWillDo243() {
+        sixty("b");
+        keep(1);
+        removeAt("b");
+        sixty("a");
+        same("begin", x.begin(2), 243);
+    }
+
+    @Case(BEGUN)
+    void tapeIsLeftAlone() {
+        tape("t");
+        x.begin(1);
+        same("bytes on the tape", x.about(8), 1);
+    }
+
+    @Case(TIME)
+    void timeOf0IsTaken() {
+        x.begin(0);
+        x.step(200);
+        same("its time", x.session(0, 0), 0);
+    }
+
+    @Case(TIME)
+    void timeOfMinus1IsRefused() {
+        refused(ARGUMENT, "begin(-1)", () -> x.begin(-1));
+    }
+
+    @Case(TIME)
+    void lowestTimeIsRefused() {
+        refused(ARGUMENT, "begin(lowest)", () -> x.begin(LOWEST));
+    }
+
+    @Case(TIME)
+    void highestTimeIsTaken() {
+        x.begin(HIGHEST);
+        x.step(200);
+        same("its time", x.session(0, 0), HIGHEST);
+    }
+
+    @Case(TIME)
+    void noTimeIsAboveTheHighest() {
+        keep(HIGHEST);
+        refused(ARGUMENT, "begin(highest)", () -> x.begin(HIGHEST));
+        refused(ARGUMENT, "begin(0)", () -> x.begin(0));
+    }
+
+    @Case(TIME)
+    void timeJustAboveTheLatestIsTaken() {
+        keep(10);
+        same("begin(11)", x.begin(11), 3);
+    }
+
+    @Case(TIME)
+    void timeOfTheLatestIsRefused() {
+        isNoTime(10);
+    }
+
+    @Case(TIME)
+    void timeBelowTheLatestIsRefused() {
+        isNoTime(9);
+    }
+
+    @Case(TIME)
+    void timeBelow0BehindASessionIsRefused() {
+        isNoTime(-1);
+    }
+
+    @Case(TIME)
+    void latestIsNotTheOldest() {
+        keep(10);
+        keep(20);
+        refused(ARGUMENT, "begin(15)", () -> x.begin(15));
+        refused(ARGUMENT, "begin(20)", () -> x.begin(20));
+        same("begin(21)", x.begin(21), 3);
+    }
+
+    @Case(TIME)
+    void latestStaysTheLatestBehindAPrune() {
+        keep(10);
+        keep(20);
+        x.prune(20);
+        refused(ARGUMENT, "begin(20)", () -> x.begin(20));
+        same("begin(21)", x.begin(21), 3);
+    }
+
+    @Case(TIME)
+    void sessionThatWasTakenBackIsNotTheLatest() {
+        keep(10);
+        x.begin(30);
         x.step(1);
         x.crash();
-        Checks.throwsState("broken", () -> x.begin(6));
-        Checks.throwsState("broken, a wrong time", () -> x.begin(-1));
         x.regress(1);
-        Checks.same("at rest", x.begin(0), 3);
+        same("begin(11)", x.begin(11), 3);
     }
 
-    private static void full() {
-        MirrorKeep x = new MirrorKeep();
-        for (int i = 0; i < 40; i++) {
-            Checks.keep(x, i);
-        }
-        Checks.same("sessions", x.about(1), 40);
-        Checks.throwsState("a 41st", () -> x.begin(40));
-        Checks.throwsState("a 41st, a wrong time", () -> x.begin(-1));
-        x.prune(1);
-        Checks.same("room again", x.begin(40), 3);
+    @Case(TIME)
+    void takenBackFirstSessionLeavesAnyTime() {
+        x.begin(30);
+        x.crash();
+        x.regress(0);
+        same("begin(0)", x.begin(0), 3);
+    }
+
+    @Case(STATES)
+    void underWayIsRefused() {
+        file("f");
+        x.begin(5);
+        x.step(2);
+        refused(STATE, "begin(6), under way", () -> x.begin(6));
+        same("the rest of it", x.step(200), 3);
+        same("its time", x.session(0, 0), 5);
+    }
+
+    @Case(STATES)
+    void brokenIsRefused() {
+        brokenBehind(3);
+        refused(STATE, "begin(3), broken", () -> x.begin(3));
+        same("regress(200)", x.regress(200), 3);
+    }
+
+    @Case(STATES)
+    void brokenWithNothingDoneIsRefused() {
+        brokenBehind(0);
+        refused(STATE, "begin(3), broken", () -> x.begin(3));
+    }
+
+    @Case(STATES)
+    void fortiethSessionIsTaken() {
+        sessions(39);
+        same("begin(39)", x.begin(39), 3);
         x.step(200);
-        Checks.same("sessions", x.about(1), 40);
-        Checks.same("the oldest", x.session(0, 0), 1);
-        Checks.same("the latest", x.session(39, 0), 40);
+        same("sessions", x.about(1), 40);
+        same("the latest", x.session(39, 0), 39);
     }
 
-    private static void mostOperations() {
-        MirrorKeep x = new MirrorKeep();
-        Checks.sixty(x, "b");
-        Checks.same("60 come", Checks.keep(x, 1), 123);
-        Checks.choose(x, "b");
-        x.remove();
-        Checks.sixty(x, "a");
-        Checks.same("60 come and 60 go", x.begin(2), 243);
+    @Case(STATES)
+    void fortyFirstSessionIsRefused() {
+        sessions(40);
+        refused(STATE, "begin(40)", () -> x.begin(40));
+    }
+
+    @Case(STATES)
+    void fortyFirstSessionIsTakenBehindAPrune() {
+        sessions(40);
+        x.prune(1);
+        same("begin(40)", x.begin(40), 3);
+        x.step(200);
+        same("sessions", x.about(1), 40);
+        same("the oldest", x.session(0, 0), 1);
+        same("the latest", x.session(39, 0), 40);
+        thrown(STATE, "begin(41)", () -> x.begin(41));
+    }
+
+    @Case(STATES)
+    void underWayComesAheadOfTheTime() {
+        x.begin(5);
+        refused(STATE, "begin(-1), under way", () -> x.begin(-1));
+    }
+
+    @Case(STATES)
+    void brokenComesAheadOfTheTime() {
+        keep(5);
+        x.begin(6);
+        x.crash();
+        refused(STATE, "begin(-1), broken", () -> x.begin(-1));
+        refused(STATE, "begin(5), broken", () -> x.begin(5));
+    }
+
+    @Case(STATES)
+    void fortySessionsComeAheadOfTheTime() {
+        sessions(40);
+        thrown(STATE, "begin(-1)", () -> x.begin(-1));
+        thrown(STATE, "begin(39)", () -> x.begin(39));
+        same("state", x.about(0), AT_REST);
     }
 }

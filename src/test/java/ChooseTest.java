@@ -1,51 +1,190 @@
-/** Promise 5: the source's entry of the tape's path is chosen. */
-public final class ChooseTest {
+/** Promise 5: choose. */
+public final class ChooseTest extends KeepCases {
+    private static final String CHOSEN =
+        "The source's entry of the path that is on the tape (which is empty then) is CHOSEN: its KIND";
+    private static final String NOTHING = "NONE, and nothing is chosen then, if there is none.";
+
     public static void main(String[] args) {
-        MirrorKeep x = new MirrorKeep();
-        Checks.directory(x, "d");
-        Checks.file(x, "d/f");
-        Checks.link(x, "l");
-        Checks.same("choose d", Checks.choose(x, "d"), 2);
-        Checks.same("choose l", Checks.choose(x, "l"), 3);
-        Checks.same("choose d/f", Checks.choose(x, "d/f"), 1);
-        Checks.same("the tape is empty then", x.about(8), 0);
-        x.set(7, 8);
-        Checks.same("d/f is chosen", Checks.tree(x, 0), "d 2 0 0 -; d/f 1 7 8 -; l 3 0 0 -");
-        none(x);
-        anyState();
-        Checks.finish();
+        run(ChooseTest.class);
     }
 
-    private static void none(MirrorKeep x) {
-        String[] wrong = {"", "e", "d/", "d/g", "D", "d\0f", "d/f\0", "d/f/g", "/d", "..", "x".repeat(400)};
-        for (String path : wrong) {
-            Checks.choose(x, "d/f");
-            Checks.same("choose " + path, Checks.choose(x, path), MirrorKeep.NONE);
-            Checks.same("the tape is empty then", x.about(8), 0);
-            Checks.throwsState("nothing is chosen then", () -> x.set(1, 1));
+    private void isNone(String path) {
+        directory("d");
+        file("d/f");
+        same("choose of " + path, choose(path), NONE);
+        same("bytes on the tape", x.about(8), 0);
+        nothingIsChosen();
+    }
+
+    @Case(CHOSEN)
+    void itAnswersTheKind() {
+        directory("d");
+        file("d/f");
+        link("l");
+        same("choose of d", choose("d"), DIRECTORY);
+        same("choose of d/f", choose("d/f"), FILE);
+        same("choose of l", choose("l"), LINK);
+    }
+
+    @Case(CHOSEN)
+    void entryOfThePathIsChosen() {
+        file("a");
+        file("b");
+        file("c");
+        choose("b");
+        isChosen("b");
+    }
+
+    @Case(CHOSEN)
+    void tapeIsEmptyThen() {
+        file("a");
+        choose("a");
+        same("bytes on the tape", x.about(8), 0);
+    }
+
+    @Case(CHOSEN)
+    void longestPathIsChosen() {
+        String path = "";
+        for (int i = 0; i < 6; i++) {
+            path = path + (i == 0 ? "" : "/") + "n".repeat(24);
+            directory(path);
         }
+        same("choose", choose(path), DIRECTORY);
+        same("remove", x.remove(), 1);
+        same("entries", x.about(3), 5);
     }
 
-    private static void anyState() {
-        MirrorKeep x = new MirrorKeep();
-        Checks.file(x, "a");
-        Checks.file(x, "b");
+    @Case(CHOSEN)
+    void firstAndLastOfSixtyAreChosen() {
+        sixty("d");
+        same("choose of the first", choose("d"), DIRECTORY);
+        same("choose of the last", choose("d/9"), FILE);
+        same("remove", x.remove(), 1);
+        same("entries", x.about(3), 59);
+    }
+
+    @Case(NOTHING)
+    void emptyTapeIsNone() {
+        isNone("");
+    }
+
+    @Case(NOTHING)
+    void emptySourceIsNone() {
+        same("choose of a", choose("a"), NONE);
+        same("bytes on the tape", x.about(8), 0);
+        nothingIsChosen();
+    }
+
+    @Case(NOTHING)
+    void fullTapeIsNone() {
+        isNone("x".repeat(400));
+    }
+
+    @Case(NOTHING)
+    void anotherPathIsNone() {
+        isNone("e");
+    }
+
+    @Case(NOTHING)
+    void pathThatIsShorterIsNone() {
+        isNone("d/");
+    }
+
+    @Case(NOTHING)
+    void pathThatIsLongerIsNone() {
+        isNone("d/f/g");
+    }
+
+    @Case(NOTHING)
+    void pathThatEndsInAByte0IsNone() {
+        isNone("d/f\0");
+    }
+
+    @Case(NOTHING)
+    void byte0InPlaceOfTheSlashIsNone() {
+        isNone("d\0f");
+    }
+
+    @Case(NOTHING)
+    void slashAheadIsNone() {
+        isNone("/d");
+    }
+
+    @Case(NOTHING)
+    void whatIsNoPathIsNone() {
+        isNone("..");
+    }
+
+    @Case(NOTHING)
+    void otherCaseIsNone() {
+        isNone("D");
+    }
+
+    @Case(NOTHING)
+    void whatWentIsNone() {
+        file("a");
+        x.remove();
+        same("choose of a", choose("a"), NONE);
+    }
+
+    @Case(NOTHING)
+    void whatOnlyTheMirrorHasIsNone() {
+        file("a");
+        keep(1);
+        x.remove();
+        same("choose of a", choose("a"), NONE);
+    }
+
+    @Case(CHOSEN)
+    void underWayItIsChosenToo() {
+        file("a");
+        file("b");
         x.begin(1);
-        Checks.same("choose, under way", Checks.choose(x, "a"), 1);
-        x.step(2);
+        same("choose of a", choose("a"), FILE);
+        same("bytes on the tape", x.about(8), 0);
+        x.step(200);
+        isChosen("a");
+    }
+
+    @Case(NOTHING)
+    void underWayItIsNoneToo() {
+        file("a");
+        x.begin(1);
+        same("choose of b", choose("b"), NONE);
+        same("bytes on the tape", x.about(8), 0);
+        x.step(200);
+        nothingIsChosen();
+    }
+
+    @Case(CHOSEN)
+    void brokenItIsChosenToo() {
+        file("a");
+        file("b");
+        x.begin(1);
+        x.step(4);
         x.crash();
-        x.set(5, 6);
-        Checks.same("a is chosen", Checks.tree(x, 0), "a 1 5 6 -; b 1 0 0 -");
-        Checks.same("choose, broken", Checks.choose(x, "b"), 1);
+        same("choose of a", choose("a"), FILE);
+        isChosen("a");
+    }
+
+    @Case(CHOSEN)
+    void choiceStaysThroughASession() {
+        file("a");
+        file("b");
+        choose("a");
+        keep(1);
+        isChosen("a");
+    }
+
+    @Case(CHOSEN)
+    void choiceStaysThroughARegress() {
+        file("a");
+        file("b");
+        choose("a");
+        x.begin(1);
+        x.step(4);
+        x.crash();
         x.regress(200);
-        x.set(7, 8);
-        Checks.same("b is chosen", Checks.tree(x, 0), "a 1 5 6 -; b 1 7 8 -");
-        Checks.choose(x, "b");
-        x.remove();
-        Checks.keep(x, 1);
-        Checks.file(x, "c");
-        Checks.choose(x, "a");
-        x.remove();
-        Checks.same("what only the mirror has", Checks.choose(x, "a"), MirrorKeep.NONE);
+        isChosen("a");
     }
 }

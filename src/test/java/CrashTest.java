@@ -1,34 +1,90 @@
-/** Promise 12: the session that is under way breaks off. */
-public final class CrashTest {
+/** Promise 12: crash. */
+public final class CrashTest extends KeepCases {
+    private static final String BREAKS =
+        "The session that is UNDER WAY breaks off: the repository is BROKEN.";
+    private static final String STATES = "IllegalStateException: none is.";
+
     public static void main(String[] args) {
-        MirrorKeep x = new MirrorKeep();
-        Checks.throwsState("at rest", () -> x.crash());
-        for (int done = 0; done <= 8; done++) {
-            behind(done);
-        }
-        behindCommit();
-        Checks.finish();
+        run(CrashTest.class);
     }
 
-    private static void behind(int done) {
-        MirrorKeep x = StepTest.threeChanges();
+    private void breaksBehind(int done) {
+        threeChanges();
         x.step(done);
-        String mirror = Checks.tree(x, 1);
-        int increments = x.about(7);
+        tape("t");
+        String before = told();
         x.crash();
-        Checks.same("state", x.about(0), 2);
-        Checks.same("operations done", x.about(2), done);
-        Checks.same("mirror", Checks.tree(x, 1), mirror);
-        Checks.same("increments", x.about(7), increments);
-        Checks.same("sessions", x.about(1), 1);
-        Checks.throwsState("broken", () -> x.crash());
-        Checks.throwsState("broken", () -> x.step(1));
+        same("state", x.about(0), BROKEN);
+        same("operations done", x.about(2), done);
+        // The state is what told() begins with.
+        same("all but the state", told().substring(1), before.substring(1));
+        same("bytes on the tape", x.about(8), 1);
     }
 
-    private static void behindCommit() {
-        MirrorKeep x = StepTest.threeChanges();
+    @Case(BREAKS)
+    void aheadOfMark() {
+        breaksBehind(0);
+    }
+
+    @Case(BREAKS)
+    void behindMark() {
+        breaksBehind(1);
+    }
+
+    @Case(BREAKS)
+    void behindAnIncrement() {
+        breaksBehind(2);
+    }
+
+    @Case(BREAKS)
+    void behindAnUpdate() {
+        breaksBehind(3);
+    }
+
+    @Case(BREAKS)
+    void behindTheLastIncrement() {
+        breaksBehind(6);
+    }
+
+    @Case(BREAKS)
+    void behindTheLastUpdate() {
+        breaksBehind(7);
+    }
+
+    @Case(BREAKS)
+    void behindSnapshot() {
+        breaksBehind(8);
+    }
+
+    @Case(STATES)
+    void behindCommitIsRefused() {
+        threeChanges();
         x.step(9);
-        Checks.throwsState("at rest behind COMMIT", () -> x.crash());
-        Checks.same("state", x.about(0), 0);
+        refused(STATE, "crash", () -> x.crash());
+    }
+
+    @Case(STATES)
+    void newObjectIsRefused() {
+        refused(STATE, "crash", () -> x.crash());
+    }
+
+    @Case(STATES)
+    void brokenIsRefused() {
+        brokenBehind(3);
+        refused(STATE, "crash", () -> x.crash());
+    }
+
+    @Case(STATES)
+    void brokenInTheMidstOfARegressIsRefused() {
+        brokenBehind(5);
+        x.regress(2);
+        refused(STATE, "crash", () -> x.crash());
+    }
+
+    @Case(STATES)
+    void behindARegressIsRefused() {
+        brokenBehind(3);
+        x.regress(3);
+        refused(STATE, "crash", () -> x.crash());
     }
 }

@@ -1,76 +1,206 @@
-/** Promise 16: how many changes there are between mirror and source. */
-public final class DifferTest {
+/** Promise 16: differ. */
+public final class DifferTest extends KeepCases {
+    private static final String DIFFER = "How many CHANGES there are between mirror and source.";
+    private static final String CHANGE = "A CHANGE is a path that one of mirror and source has, or both have with "
+        + "another KIND, MODE, TIME or content.";
+
     public static void main(String[] args) {
-        kinds();
-        inASession();
-        whileBroken();
-        Checks.finish();
+        run(DifferTest.class);
     }
 
-    private static void kinds() {
-        MirrorKeep x = new MirrorKeep();
-        Checks.same("nothing", x.differ(), 0);
-        Checks.directory(x, "d");
-        Checks.file(x, "d/f");
-        Checks.write(x, 0, "abc");
-        Checks.same("two came", x.differ(), 2);
-        Checks.keep(x, 1);
-        Checks.same("none behind a session", x.differ(), 0);
-        Checks.write(x, 0, "abc");
-        x.set(0, 0);
-        x.cut(3);
-        Checks.same("the same again", x.differ(), 0);
-        Checks.write(x, 2, "C");
-        Checks.same("last byte", x.differ(), 1);
-        Checks.write(x, 0, "Abc");
-        Checks.same("first byte", x.differ(), 1);
-        Checks.write(x, 0, "a");
-        Checks.same("content as it was", x.differ(), 0);
-        x.set(1, 0);
-        Checks.same("mode", x.differ(), 1);
-        x.set(0, 1);
-        Checks.same("time", x.differ(), 1);
-        x.remove();
-        Checks.same("one went", x.differ(), 1);
-        Checks.directory(x, "d/f");
-        Checks.same("kind", x.differ(), 1);
-        Checks.file(x, "e");
-        Checks.same("one came, too", x.differ(), 2);
-        Checks.choose(x, "d");
-        x.remove();
-        Checks.same("two went and one came", x.differ(), 3);
+    /** A file of the mirror and of the source, which is chosen. */
+    private void keptFile() {
+        make("f", FILE, 1, 1);
+        write(0, "abc");
+        keep(1);
+        same("none at first", x.differ(), 0);
     }
 
-    private static void inASession() {
-        MirrorKeep x = StepTest.threeChanges();
-        int[] left = {3, 3, 3, 2, 2, 1, 1, 0, 0, 0};
-        for (int done = 0; done < left.length; done++) {
-            Checks.same("behind " + done + " operations", x.differ(), left[done]);
-            if (done < 9) {
-                x.step(1);
-            }
-        }
-        Checks.same("three changes were kept", x.session(1, 1), 3);
+    @Case(DIFFER)
+    void emptyTreesDoNotDiffer() {
+        same("differ()", x.differ(), 0);
     }
 
-    /** The mirror has two trees' entries then, and the source may be a third. */
-    private static void whileBroken() {
-        MirrorKeep x = new MirrorKeep();
-        Checks.sixty(x, "y");
-        Checks.keep(x, 1);
-        Checks.choose(x, "y");
-        x.remove();
-        Checks.sixty(x, "x");
-        x.begin(2);
+    @Case(DIFFER)
+    void sameTreesDoNotDiffer() {
+        keptFile();
+        directory("d");
+        link("d/l");
+        keep(2);
+        same("differ()", x.differ(), 0);
+    }
+
+    @Case(DIFFER)
+    void sixtyCame() {
+        sixty("d");
+        same("differ()", x.differ(), 60);
+    }
+
+    @Case(DIFFER)
+    void sixtyWent() {
+        sixty("d");
+        keep(1);
+        removeAt("d");
+        same("differ()", x.differ(), 60);
+    }
+
+    @Case(DIFFER)
+    void sixtyCameAndSixtyWent() {
+        mostChanges("b", "a");
+        same("differ()", x.differ(), 120);
+    }
+
+    @Case(DIFFER)
+    void mirrorOf120AndAnotherSource() {
+        mostChanges("x", "y");
         x.step(121);
         x.crash();
-        Checks.choose(x, "x");
+        removeAt("x");
+        directory("z");
+        files("z", 29);
+        same("differ()", x.differ(), 150);
+        same("regress(200)", x.regress(200), 121);
+        same("differ()", x.differ(), 90);
+    }
+
+    @Case(DIFFER)
+    void underWayTheMirrorIsAsItIs() {
+        threeChanges();
+        int[] left = {3, 3, 3, 2, 2, 1, 1, 0, 0};
+        for (int done = 0; done < left.length; done++) {
+            same("behind " + done + " operations", x.differ(), left[done]);
+            x.step(1);
+        }
+        same("changes to the session", x.session(1, 1), 3);
+        same("at rest", x.differ(), 0);
+    }
+
+    @Case(DIFFER)
+    void brokenTheMirrorIsAsItIs() {
+        brokenBehind(5);
+        same("broken", x.differ(), 1);
+        x.regress(1);
+        same("an update is taken back", x.differ(), 2);
+        x.regress(200);
+        same("at rest", x.differ(), 3);
+    }
+
+    @Case(DIFFER)
+    void askingChangesNothing() {
+        threeChanges();
+        x.step(3);
+        String before = told();
+        x.differ();
+        same("all", told(), before);
+        same("the rest of the session", x.step(200), 6);
+        same("changes to it", x.session(1, 1), 3);
+    }
+
+    @Case(CHANGE)
+    void pathThatOnlyTheSourceHas() {
+        keptFile();
+        file("g");
+        same("differ()", x.differ(), 1);
+    }
+
+    @Case(CHANGE)
+    void pathThatOnlyTheMirrorHas() {
+        keptFile();
         x.remove();
-        Checks.directory(x, "z");
-        Checks.files(x, "z", 29);
-        Checks.same("entries of the mirror", x.about(4), 120);
-        Checks.same("differ()", x.differ(), 150);
-        Checks.same("regress(200)", x.regress(200), 121);
-        Checks.same("differ()", x.differ(), 90);
+        same("differ()", x.differ(), 1);
+    }
+
+    @Case(CHANGE)
+    void anotherKind() {
+        file("f");
+        keep(1);
+        x.remove();
+        link("f");
+        same("a link for a file", x.differ(), 1);
+        x.remove();
+        directory("f");
+        same("a directory for a file", x.differ(), 1);
+        x.remove();
+        file("f");
+        same("a file again", x.differ(), 0);
+    }
+
+    @Case(CHANGE)
+    void anotherMode() {
+        keptFile();
+        x.set(2, 1);
+        same("differ()", x.differ(), 1);
+        x.set(1, 1);
+        same("as it was", x.differ(), 0);
+    }
+
+    @Case(CHANGE)
+    void anotherTime() {
+        keptFile();
+        x.set(1, 2);
+        same("differ()", x.differ(), 1);
+        x.set(1, 1);
+        same("as it was", x.differ(), 0);
+    }
+
+    @Case(CHANGE)
+    void anotherFirstByte() {
+        keptFile();
+        write(0, "A");
+        same("differ()", x.differ(), 1);
+        write(0, "a");
+        same("as it was", x.differ(), 0);
+    }
+
+    @Case(CHANGE)
+    void anotherLastByte() {
+        keptFile();
+        write(2, "C");
+        same("differ()", x.differ(), 1);
+        write(2, "c");
+        same("as it was", x.differ(), 0);
+    }
+
+    @Case(CHANGE)
+    void byteMore() {
+        keptFile();
+        write(3, "\0");
+        same("differ()", x.differ(), 1);
+        x.cut(3);
+        same("as it was", x.differ(), 0);
+    }
+
+    @Case(CHANGE)
+    void byteLess() {
+        keptFile();
+        x.cut(2);
+        same("differ()", x.differ(), 1);
+        write(2, "c");
+        same("as it was", x.differ(), 0);
+    }
+
+    @Case(CHANGE)
+    void noContentAnyMore() {
+        keptFile();
+        x.cut(0);
+        same("differ()", x.differ(), 1);
+    }
+
+    @Case(CHANGE)
+    void severalInOneEntryAreOne() {
+        keptFile();
+        x.set(2, 2);
+        x.cut(1);
+        same("differ()", x.differ(), 1);
+    }
+
+    @Case(CHANGE)
+    void sameEntryMadeAnewIsNone() {
+        keptFile();
+        x.remove();
+        make("f", FILE, 1, 1);
+        write(0, "abc");
+        same("differ()", x.differ(), 0);
+        same("operations", x.begin(2), 3);
     }
 }

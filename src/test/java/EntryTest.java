@@ -1,67 +1,186 @@
-/** Promise 17: what is told of a tree's i-th entry, in ORDER. */
-public final class EntryTest {
+/** Promise 17: entry. */
+public final class EntryTest extends KeepCases {
+    private static final String TOLD = "Of a tree (0 the source, 1 the mirror, as it is, 2 the result), of its i-th "
+        + "entry in ORDER: KIND (what = 0), MODE (1), TIME (2), how long its content is (3), its path (4).";
+    private static final String NOTHING = "NONE if there is none such, or for another what.";
+
     public static void main(String[] args) {
-        MirrorKeep x = threeTrees();
-        told(x, 0, 0, 3, 511, 1, 4, 1);
-        told(x, 0, 1, 2, 493, 5, 0, 4);
-        told(x, 0, 2, 1, 420, 7, 11, 9);
-        told(x, 1, 0, 2, 493, 5, 0, 4);
-        told(x, 1, 1, 1, 420, 7, 11, 9);
-        told(x, 2, 0, 2, 493, 5, 0, 4);
-        none(x);
-        order();
-        Checks.finish();
+        run(EntryTest.class);
     }
 
-    /** A source of three entries, a mirror of two and a result of one. */
-    static MirrorKeep threeTrees() {
-        MirrorKeep x = new MirrorKeep();
-        Checks.make(x, "docs", 2, 493, 5);
-        Checks.keep(x, 1);
-        Checks.make(x, "docs/text", 1, 420, 7);
-        Checks.write(x, 0, "hello\0w\u0080r\u00ff!");
-        Checks.keep(x, 2);
-        Checks.make(x, "a", 3, 511, 1);
-        Checks.write(x, 0, "docs");
-        x.restore(1);
-        return x;
-    }
-
-    private static void told(MirrorKeep x, int tree, int i, int... wants) {
+    private void told(int tree, int i, int... wants) {
         for (int what = 0; what < wants.length; what++) {
-            Checks.same("entry(" + tree + ", " + i + ", " + what + ")", x.entry(tree, i, what), wants[what]);
+            same("entry(" + tree + ", " + i + ", " + what + ")", x.entry(tree, i, what), wants[what]);
         }
     }
 
-    private static void none(MirrorKeep x) {
-        int[][] wrong = {{-1, 0, 0}, {3, 0, 0}, {Integer.MIN_VALUE, 0, 0}, {Integer.MAX_VALUE, 0, 0}, {0, -1, 0},
-            {0, 3, 0}, {1, 2, 4}, {2, 1, 3}, {0, Integer.MIN_VALUE, 0}, {1, Integer.MAX_VALUE, 0}, {0, 60, 0},
-            {1, 120, 0}, {0, 0, -1}, {0, 0, 5}, {1, 0, Integer.MAX_VALUE}, {2, 0, Integer.MIN_VALUE}};
-        for (int[] w : wrong) {
-            Checks.same("entry" + java.util.Arrays.toString(w), x.entry(w[0], w[1], w[2]), MirrorKeep.NONE);
-        }
-        Checks.choose(x, "docs");
-        x.remove();
-        Checks.same("what went is not there", x.entry(0, 1, 0), MirrorKeep.NONE);
+    private void isNone(int tree, int i) {
+        told(tree, i, NONE, NONE, NONE, NONE, NONE, NONE);
     }
 
-    private static void order() {
-        MirrorKeep x = new MirrorKeep();
-        String[] directories = {"a", "a/b", "a-", "\u00e9", "\u0001"};
-        for (String path : directories) {
-            Checks.directory(x, path);
+    private void isNoWhat(int what) {
+        threeTrees();
+        for (int tree = SOURCE; tree <= RESULT; tree++) {
+            same("entry(" + tree + ", 0, " + what + ")", x.entry(tree, 0, what), NONE);
         }
-        String[] files = {"b", "aa", "a/b/c", "a/b-", "a/ba", "a-/a", "a.", "A", "\u007f", "\u0080", "\u00ff",
-            "\u00e9/\u00ff", "\u00e9/z", "\u0001/!", "a/B", "a!"};
-        for (String path : files) {
-            Checks.file(x, path);
+    }
+
+    private void isNoTree(int tree) {
+        threeTrees();
+        isNone(tree, 0);
+    }
+
+    @Case(TOLD)
+    void entriesOfTheSource() {
+        threeTrees();
+        told(SOURCE, 0, LINK, 511, 1, 4, 1);
+        told(SOURCE, 1, DIRECTORY, 493, 5, 0, 4);
+        told(SOURCE, 2, FILE, 420, 7, 11, 9);
+    }
+
+    @Case(TOLD)
+    void entriesOfTheMirror() {
+        threeTrees();
+        told(MIRROR, 0, DIRECTORY, 493, 5, 0, 4);
+        told(MIRROR, 1, FILE, 420, 7, 11, 9);
+    }
+
+    @Case(TOLD)
+    void entriesOfTheResult() {
+        threeTrees();
+        told(RESULT, 0, DIRECTORY, 493, 5, 0, 4);
+    }
+
+    @Case(TOLD)
+    void mirrorAsItIsUnderWay() {
+        threeChanges();
+        x.step(5);
+        told(MIRROR, 0, FILE, 0, 0, 3, 1);
+        isNone(MIRROR, 1);
+        x.step(2);
+        told(MIRROR, 1, DIRECTORY, 7, 7, 0, 1);
+    }
+
+    @Case(TOLD)
+    void mirrorAsItIsBroken() {
+        brokenBehind(7);
+        told(MIRROR, 1, DIRECTORY, 7, 7, 0, 1);
+        x.regress(1);
+        isNone(MIRROR, 1);
+    }
+
+    @Case(TOLD)
+    void mirrorAndResultAreInOrderToo() {
+        directory("a");
+        for (String path : new String[] {"b", "aa", "a-", "a/b", "\u00ff", "\u0001"}) {
+            file(path);
         }
-        String due = "\u0001 \u0001/! A a a/B a/b a/b/c a/b- a/ba a! a- a-/a a. aa b \u007f \u0080 "
-            + "\u00e9 \u00e9/z \u00e9/\u00ff \u00ff";
-        Checks.same("the source in ORDER", Checks.paths(x, 0), due);
-        Checks.keep(x, 1);
-        Checks.same("the mirror in ORDER", Checks.paths(x, 1), due);
+        keep(1);
         x.restore(1);
-        Checks.same("the result in ORDER", Checks.paths(x, 2), due);
+        String due = "\u0001 a a/b a- aa b \u00ff";
+        same("the source", paths(SOURCE), due);
+        same("the mirror", paths(MIRROR), due);
+        same("the result", paths(RESULT), due);
+    }
+
+    @Case(TOLD)
+    void longestContentAndHighestNumbers() {
+        make("f", FILE, 4095, HIGHEST);
+        fill(1500);
+        told(SOURCE, 0, FILE, 4095, HIGHEST, 1500, 1);
+    }
+
+    @Case(TOLD)
+    void lastOf60Entries() {
+        sixty("d");
+        told(SOURCE, 59, FILE, 0, 0, 0, 3);
+        isNone(SOURCE, 60);
+    }
+
+    @Case(NOTHING)
+    void entryOfMinus1IsNone() {
+        threeTrees();
+        isNone(SOURCE, -1);
+        isNone(MIRROR, -1);
+        isNone(RESULT, -1);
+    }
+
+    @Case(NOTHING)
+    void entryBehindTheLastIsNone() {
+        threeTrees();
+        isNone(SOURCE, 3);
+        isNone(MIRROR, 2);
+        isNone(RESULT, 1);
+    }
+
+    @Case(NOTHING)
+    void lowestEntryIsNone() {
+        threeTrees();
+        isNone(SOURCE, LOWEST);
+        isNone(MIRROR, LOWEST);
+        isNone(RESULT, LOWEST);
+    }
+
+    @Case(NOTHING)
+    void highestEntryIsNone() {
+        threeTrees();
+        isNone(SOURCE, HIGHEST);
+        isNone(MIRROR, HIGHEST);
+        isNone(RESULT, HIGHEST);
+    }
+
+    @Case(NOTHING)
+    void entryOfAnEmptyTreeIsNone() {
+        isNone(SOURCE, 0);
+        isNone(MIRROR, 0);
+        isNone(RESULT, 0);
+    }
+
+    @Case(NOTHING)
+    void entryThatWentIsNone() {
+        threeTrees();
+        removeAt("docs");
+        told(SOURCE, 0, LINK);
+        isNone(SOURCE, 1);
+    }
+
+    @Case(NOTHING)
+    void treeOfMinus1IsNone() {
+        isNoTree(-1);
+    }
+
+    @Case(NOTHING)
+    void treeOf3IsNone() {
+        isNoTree(3);
+    }
+
+    @Case(NOTHING)
+    void lowestTreeIsNone() {
+        isNoTree(LOWEST);
+    }
+
+    @Case(NOTHING)
+    void highestTreeIsNone() {
+        isNoTree(HIGHEST);
+    }
+
+    @Case(NOTHING)
+    void whatOfMinus1IsNone() {
+        isNoWhat(-1);
+    }
+
+    @Case(NOTHING)
+    void whatOf5IsNone() {
+        isNoWhat(5);
+    }
+
+    @Case(NOTHING)
+    void lowestWhatIsNone() {
+        isNoWhat(LOWEST);
+    }
+
+    @Case(NOTHING)
+    void highestWhatIsNone() {
+        isNoWhat(HIGHEST);
     }
 }

@@ -7,7 +7,7 @@ import java.util.Set;
 import java.util.TreeSet;
 
 /** The public face is the document's, and nothing else is to be seen from outside. */
-public final class FaceTest {
+public final class FaceTest extends Cases {
     private static final String[] METHODS = {
         "about(int):int", "at(int,int,boolean,int):int",
         "begin(int):int IllegalArgumentException IllegalStateException", "choose():int",
@@ -20,23 +20,42 @@ public final class FaceTest {
         "step(int):int IllegalStateException IllegalArgumentException",
         "write(int):int IllegalArgumentException IllegalStateException"};
 
+    private final Class<?> face = MirrorKeep.class;
+
     public static void main(String[] args) {
-        Class<?> face = MirrorKeep.class;
-        Checks.same("the class", Modifier.toString(face.getModifiers()), "public final");
-        Checks.same("NONE", MirrorKeep.NONE, -1);
-        methods(face);
-        fields(face);
-        Constructor<?>[] constructors = face.getDeclaredConstructors();
-        Checks.same("constructors", constructors.length, 1);
-        Checks.same("the constructor", constructors[0].toString(), "public MirrorKeep()");
-        for (Class<?> inside : face.getDeclaredClasses()) {
-            Checks.same(inside + " is static", Modifier.isStatic(inside.getModifiers()) ? 1 : 0, 1);
-            fields(inside);
-        }
-        Checks.finish();
+        run(FaceTest.class);
     }
 
-    private static void methods(Class<?> face) {
+    @Case("public final class MirrorKeep")
+    void classIsPublicAndFinal() {
+        same("the class", Modifier.toString(face.getModifiers()), "public final");
+    }
+
+    @Case("`NONE = -1`: None.")
+    void noneIsMinus1() throws ReflectiveOperationException {
+        same("NONE", MirrorKeep.NONE, -1);
+        same("its face", face.getField("NONE").toString(), "public static final int MirrorKeep.NONE");
+    }
+
+    @Case("public MirrorKeep();")
+    void oneConstructor() {
+        Constructor<?>[] constructors = face.getDeclaredConstructors();
+        same("constructors", constructors.length, 1);
+        same("the constructor", constructors[0].toString(), "public MirrorKeep()");
+    }
+
+    /** LANGUAGE.md's rules 1 and 5. */
+    @Case("The public face")
+    void noOtherMemberIsSeen() {
+        fields(face);
+        for (Class<?> inside : face.getDeclaredClasses()) {
+            same(inside + " is static", Modifier.isStatic(inside.getModifiers()) ? 1 : 0, 1);
+            fields(inside);
+        }
+    }
+
+    @Case("The public face")
+    void methodsAreTheDocuments() {
         Set<String> seen = new TreeSet<>();
         Set<String> publicNames = new TreeSet<>();
         Set<String> privateNames = new TreeSet<>();
@@ -44,14 +63,14 @@ public final class FaceTest {
             if (Modifier.isPrivate(method.getModifiers())) {
                 privateNames.add(method.getName());
             } else {
-                Checks.same(method.getName(), Modifier.toString(method.getModifiers()), "public");
+                same(method.getName(), Modifier.toString(method.getModifiers()), "public");
                 publicNames.add(method.getName());
                 seen.add(described(method));
             }
         }
-        Checks.same("the methods", seen.toString(), new TreeSet<>(Arrays.asList(METHODS)).toString());
+        same("the methods", seen.toString(), new TreeSet<>(Arrays.asList(METHODS)).toString());
         privateNames.retainAll(publicNames);
-        Checks.same("private methods of a public name", privateNames.toString(), "[]");
+        same("private methods of a public name", privateNames.toString(), "[]");
     }
 
     private static String described(Method method) {
@@ -66,14 +85,14 @@ public final class FaceTest {
         return text.toString();
     }
 
-    private static void fields(Class<?> type) {
+    private void fields(Class<?> type) {
         for (Field field : type.getDeclaredFields()) {
             boolean isNone = field.getName().equals("NONE");
             if (type == MirrorKeep.class && !isNone) {
-                Checks.same(field + " is private", Modifier.isPrivate(field.getModifiers()) ? 1 : 0, 1);
+                same(field + " is private", Modifier.isPrivate(field.getModifiers()) ? 1 : 0, 1);
             }
             if (Modifier.isStatic(field.getModifiers())) {
-                Checks.same(field + " is final", Modifier.isFinal(field.getModifiers()) ? 1 : 0, 1);
+                same(field + " is final", Modifier.isFinal(field.getModifiers()) ? 1 : 0, 1);
             }
         }
     }

@@ -1,82 +1,134 @@
-/** Promise 2: twenty bytes are put ready, those of a first, the highest of each first. */
-public final class FeedTest {
+/** Promise 2: feed. */
+public final class FeedTest extends KeepCases {
+    private static final String READY =
+        "Puts twenty bytes ready, those of a first, the highest of each first.";
+    private static final String ZEROS =
+        "(They are 0 at first, and behind each end() that answers a number.)";
+
     public static void main(String[] args) {
-        order();
-        highBytes();
-        zeroAtFirst();
-        zeroBehindEnd();
-        stayBehindRefusedEnd();
-        laterFeedReplaces();
-        Checks.finish();
+        run(FeedTest.class);
     }
 
-    /** A file of what the tape has, so that it can be looked at. */
-    private static String content(MirrorKeep x) {
+    /** The bytes that come to the tape by end(n), as numbers. */
+    private String ready(int n) {
+        x.end(n);
+        return written();
+    }
+
+    private String written() {
         StringBuilder text = new StringBuilder();
-        x.write(0);
-        for (int k = 0; k < x.entry(0, 0, 3); k++) {
-            text.append(k == 0 ? "" : " ").append(x.at(0, 0, false, k));
+        x.cut(0);
+        int length = x.write(0);
+        for (int k = 0; k < length; k++) {
+            text.append(k == 0 ? "" : " ").append(x.at(SOURCE, 0, false, k));
         }
         return text.toString();
     }
 
-    private static MirrorKeep withFile() {
-        MirrorKeep x = new MirrorKeep();
-        Checks.file(x, "f");
-        return x;
-    }
-
-    private static void order() {
-        MirrorKeep x = withFile();
+    @Case(READY)
+    void twentyBytesInOrder() {
+        file("f");
         x.feed(0x01020304, 0x05060708, 0x090a0b0c, 0x0d0e0f10, 0x11121314);
-        x.end(20);
-        Checks.same("the twenty bytes", content(x), "1 2 3 4 5 6 7 8 9 10 11 12 13 14 15 16 17 18 19 20");
+        same("the bytes", ready(20), "1 2 3 4 5 6 7 8 9 10 11 12 13 14 15 16 17 18 19 20");
     }
 
-    private static void highBytes() {
-        MirrorKeep x = withFile();
-        x.feed(-1, 0x80ff7f00, Integer.MIN_VALUE, Integer.MAX_VALUE, 0xfe);
-        x.end(20);
-        Checks.same("bytes above 127", content(x), "255 255 255 255 128 255 127 0 128 0 0 0 127 255 255 255 0 0 0 254");
+    @Case(READY)
+    void lowestAndHighestNumbers() {
+        file("f");
+        x.feed(LOWEST, HIGHEST, -1, 0, 1);
+        same("the bytes", ready(20), "128 0 0 0 127 255 255 255 255 255 255 255 0 0 0 0 0 0 0 1");
     }
 
-    private static void zeroAtFirst() {
-        MirrorKeep x = withFile();
-        MirrorKeep fresh = new MirrorKeep();
-        fresh.end(2);
-        Checks.same("tape of zeros", fresh.about(8), 2);
-        Checks.throwsArgument("zeros are no path", () -> fresh.make(1, 0, 0));
-        x.end(3);
-        Checks.same("zeros", content(x), "0 0 0");
-    }
-
-    private static void zeroBehindEnd() {
-        MirrorKeep x = withFile();
-        x.feed(0x01020304, 0x05060708, 0, 0, 9);
-        x.end(2);
-        x.end(20);
-        Checks.same("zeros behind end(2)", content(x), "1 2" + " 0".repeat(20));
-        MirrorKeep y = withFile();
-        y.feed(-1, -1, -1, -1, -1);
-        y.end(0);
-        y.end(2);
-        Checks.same("zeros behind end(0)", content(y), "0 0");
-    }
-
-    private static void stayBehindRefusedEnd() {
-        MirrorKeep x = withFile();
-        x.feed(0x01020304, 0, 0, 0, 0);
-        x.end(21);
-        x.end(-1);
-        x.end(4);
-        Checks.same("bytes stay ready behind NONE", content(x), "1 2 3 4");
-    }
-
-    private static void laterFeedReplaces() {
-        MirrorKeep x = withFile();
+    @Case(READY)
+    void laterFeedPutsAllTwentyReadyAnew() {
+        file("f");
         x.feed(-1, -1, -1, -1, -1);
         x.feed(0x01000000, 0, 0, 0, 2);
+        same("the bytes", ready(20), "1" + " 0".repeat(18) + " 2");
+    }
+
+    @Case(READY)
+    void feedLeavesTheTapeAlone() {
+        file("f");
+        tape("ab");
+        x.feed(-1, -1, -1, -1, -1);
+        same("bytes on the tape", x.about(8), 2);
+        same("the bytes", written(), "97 98");
+    }
+
+    @Case(ZEROS)
+    void zerosAtFirst() {
+        x.end(1);
+        same("bytes on the tape", x.about(8), 1);
+        thrown(ARGUMENT, "make of a byte that is 0", () -> x.make(FILE, 0, 0));
+    }
+
+    @Case(ZEROS)
+    void zerosBehindEndOf20() {
+        file("f");
+        x.feed(-1, -1, -1, -1, -1);
         x.end(20);
-        Checks.same("the later feed counts", content(x), "1" + " 0".repeat(18) + " 2");
+        same("the bytes", ready(20), "255 ".repeat(20) + "0" + " 0".repeat(19));
+    }
+
+    @Case(ZEROS)
+    void zerosBehindEndOfFewerThanAreReady() {
+        file("f");
+        x.feed(0x01020304, 0x05060708, -1, -1, 9);
+        x.end(2);
+        same("the bytes", ready(20), "1 2" + " 0".repeat(20));
+    }
+
+    @Case(ZEROS)
+    void zerosBehindEndOf0() {
+        file("f");
+        x.feed(-1, -1, -1, -1, -1);
+        x.end(0);
+        same("the bytes", ready(20), "0" + " 0".repeat(19));
+    }
+
+    @Case(ZEROS)
+    void zerosBehindEndThatFillsTheTape() {
+        file("f");
+        zeros(399);
+        x.feed(0x01020304, 0, 0, 0, 0);
+        x.end(1);
+        x.write(0);
+        same("the bytes", ready(4), "0 0 0 0");
+    }
+
+    @Case(ZEROS)
+    void bytesStayReadyBehindEndOf21() {
+        file("f");
+        x.feed(0x01020304, 0, 0, 0, 5);
+        x.end(21);
+        same("the bytes", ready(20), "1 2 3 4" + " 0".repeat(15) + " 5");
+    }
+
+    @Case(ZEROS)
+    void bytesStayReadyBehindEndOfMinus1() {
+        file("f");
+        x.feed(0x01020304, 0, 0, 0, 5);
+        x.end(-1);
+        same("the bytes", ready(20), "1 2 3 4" + " 0".repeat(15) + " 5");
+    }
+
+    @Case(ZEROS)
+    void bytesStayReadyBehindEndAtAFullTape() {
+        file("f");
+        zeros(400);
+        x.feed(0x01020304, 0, 0, 0, 5);
+        same("end(1)", x.end(1), NONE);
+        x.write(0);
+        same("the bytes", ready(20), "1 2 3 4" + " 0".repeat(15) + " 5");
+    }
+
+    @Case(ZEROS)
+    void bytesStayReadyWhileTheTapeIsTaken() {
+        file("f");
+        x.feed(0x61626364, 0, 0, 0, 0);
+        x.write(0);
+        thrown(ARGUMENT, "make of no path", () -> x.make(FILE, 0, 0));
+        same("the bytes", ready(4), "97 98 99 100");
     }
 }

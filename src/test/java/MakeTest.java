@@ -1,137 +1,388 @@
-/** Promise 4: an entry of the tape's path comes to the source and is chosen. */
-public final class MakeTest {
-    private static final String LONGEST = "n".repeat(24);
+/** Promise 4: make. What is a path, TermsTest asks. */
+public final class MakeTest extends KeepCases {
+    private static final String COMES = "An entry of the path that is on the tape (which is empty then) comes to the "
+        + "source, without content, and is CHOSEN: how many entries there are.";
+    private static final String ARGUMENTS =
+        "IllegalArgumentException: kind, mode or time is none, or that is no path.";
+    private static final String STATES = "IllegalStateException: a session is UNDER WAY (this first, the tape stays); "
+        + "it is there; its directory is not; there are 60.";
+    private static final String KINDS =
+        "a KIND (1 FILE, 2 DIRECTORY, 3 LINK), a MODE 0 .. 4095, a TIME 0 and above";
 
     public static void main(String[] args) {
-        ordinary();
-        edges();
-        wrongNumbers();
-        wrongPaths();
-        wrongPlaces();
-        full();
-        argumentAheadOfState();
-        underWayFirst();
-        refusalKeepsTheChoice();
-        whileBroken();
-        Checks.finish();
+        run(MakeTest.class);
     }
 
-    private static void ordinary() {
-        MirrorKeep x = new MirrorKeep();
-        Checks.same("make d", Checks.make(x, "d", 2, 493, 5), 1);
-        Checks.same("the tape is empty then", x.about(8), 0);
-        Checks.same("make d/f", Checks.make(x, "d/f", 1, 420, 7), 2);
-        Checks.same("what is written goes to d/f", Checks.write(x, 0, "hey"), 3);
-        Checks.same("make a", Checks.make(x, "a", 3, 511, 1), 3);
-        Checks.same("the source", Checks.tree(x, 0), "a 3 511 1 -; d 2 493 5 -; d/f 1 420 7 hey");
-        Checks.same("what is written goes to a", Checks.write(x, 0, "d/f"), 3);
-        Checks.same("the source", Checks.tree(x, 0), "a 3 511 1 d/f; d 2 493 5 -; d/f 1 420 7 hey");
+    private void isTaken(int kind, int mode, int time) {
+        same("entries", make("n", kind, mode, time), 1);
+        same("the source", tree(SOURCE), "n " + kind + " " + mode + " " + time + " -");
     }
 
-    private static void edges() {
-        MirrorKeep x = new MirrorKeep();
-        Checks.same("highest mode and time", Checks.make(x, "a", 1, 4095, Integer.MAX_VALUE), 1);
-        Checks.same("lowest mode and time", Checks.make(x, "b", 1, 0, 0), 2);
-        Checks.same("they are told", Checks.tree(x, 0), "a 1 4095 2147483647 -; b 1 0 0 -");
-        String path = LONGEST;
-        for (int names = 1; names <= 6; names++) {
-            Checks.same(names + " names of 24", Checks.directory(x, path), names + 2);
-            path = path + "/" + LONGEST;
-        }
-        Checks.same("the longest path", x.entry(0, 7, 4), 149);
-        String seven = path;
-        Checks.throwsArgument("seven names", () -> Checks.file(x, seven));
-        Checks.same("three dots", Checks.file(x, "..."), 9);
-        Checks.same("dots and more", Checks.file(x, "..a"), 10);
-        Checks.same("a name of other bytes", Checks.file(x, "\u0001\u00ff \\"), 11);
-        Checks.same("d", Checks.directory(x, "d"), 12);
-        Checks.same("d/...", Checks.file(x, "d/..."), 13);
+    private void isNone(int kind, int mode, int time) {
+        file("m");
+        refusedWithTape(ARGUMENT, "make of n", () -> make("n", kind, mode, time));
+        isChosen("m");
     }
 
-    private static void wrongNumbers() {
-        MirrorKeep x = new MirrorKeep();
-        int[][] wrong = {{0, 0, 0}, {4, 0, 0}, {-1, 0, 0}, {1, -1, 0}, {1, 4096, 0}, {1, 0, -1},
-            {Integer.MAX_VALUE, 0, 0}, {1, Integer.MIN_VALUE, 0}, {1, 0, Integer.MIN_VALUE}};
-        for (int[] w : wrong) {
-            Checks.throwsArgument("make" + java.util.Arrays.toString(w), () -> Checks.make(x, "a", w[0], w[1], w[2]));
-            Checks.same("the tape is empty then", x.about(8), 0);
-        }
-        Checks.same("none came", x.about(3), 0);
+    private void isRefused(String path) {
+        refusedWithTape(STATE, "make of " + path, () -> file(path));
     }
 
-    private static void wrongPaths() {
-        MirrorKeep x = new MirrorKeep();
-        Checks.directory(x, "d");
-        String[] wrong = {"", "/", "/a", "a/", "d/", "d//a", ".", "..", "d/.", "d/..", "./a", "../a", "a\0b", "\0",
-            LONGEST + "n", "d/" + LONGEST + "n", "1/2/3/4/5/6/7", "x".repeat(400), "//////", "d/./a", "d/\0"};
-        for (String path : wrong) {
-            Checks.throwsArgument("make " + path, () -> Checks.file(x, path));
-            Checks.same("the tape is empty then", x.about(8), 0);
-        }
-        Checks.same("none came", x.about(3), 1);
+    @Case(COMES)
+    void itAnswersHowManyEntriesThereAre() {
+        same("make of d", directory("d"), 1);
+        same("make of d/f", file("d/f"), 2);
+        same("make of a", link("a"), 3);
+        same("the source", paths(SOURCE), "a d d/f");
     }
 
-    private static void wrongPlaces() {
-        MirrorKeep x = new MirrorKeep();
-        Checks.directory(x, "d");
-        Checks.file(x, "f");
-        Checks.link(x, "l");
-        String[] wrong = {"d", "f", "l", "f/a", "l/a", "e/a", "d/e/a", "dd/a"};
-        for (String path : wrong) {
-            Checks.throwsState("make " + path, () -> Checks.file(x, path));
-            Checks.same("the tape is empty then", x.about(8), 0);
-        }
-        Checks.same("none came", Checks.paths(x, 0), "d f l");
+    @Case(COMES)
+    void tapeIsEmptyThen() {
+        file("f");
+        same("bytes on the tape", x.about(8), 0);
     }
 
-    private static void full() {
-        MirrorKeep x = new MirrorKeep();
-        for (int i = 1; i <= 60; i++) {
-            Checks.same("entry " + i, Checks.file(x, "f" + i), i);
-        }
-        Checks.throwsState("entry 61", () -> Checks.file(x, "g"));
-        Checks.same("entries", x.about(3), 60);
-        Checks.choose(x, "f7");
+    @Case(COMES)
+    void itComesWithoutContent() {
+        fileOf("a", "abc");
+        file("b");
+        same("the source", tree(SOURCE), "a 1 0 0 abc; b 1 0 0 -");
+    }
+
+    @Case(COMES)
+    void itComesWithoutTheContentOfOneThatWent() {
+        fileOf("a", "abc");
         x.remove();
-        Checks.same("there is room again", Checks.file(x, "g"), 60);
+        file("a");
+        same("the source", tree(SOURCE), "a 1 0 0 -");
+        same("bytes of content", x.about(6), 0);
     }
 
-    private static void argumentAheadOfState() {
-        MirrorKeep x = new MirrorKeep();
-        Checks.file(x, "f");
-        Checks.throwsArgument("a wrong kind, and it is there", () -> Checks.make(x, "f", 4, 0, 0));
-        Checks.throwsArgument("a wrong mode, and no directory", () -> Checks.make(x, "d/f", 1, 4096, 0));
-        Checks.throwsArgument("no path, and no directory", () -> Checks.file(x, "d/"));
+    @Case(COMES)
+    void itIsChosenThoughItIsNotTheLastInOrder() {
+        file("m");
+        file("a");
+        isChosen("a");
     }
 
-    private static void underWayFirst() {
-        MirrorKeep x = new MirrorKeep();
+    @Case(COMES)
+    void mirrorAndResultAreLeftAlone() {
+        file("a");
+        keep(1);
+        x.restore(1);
+        file("b");
+        same("the mirror", paths(MIRROR), "a");
+        same("the result", paths(RESULT), "a");
+    }
+
+    @Case(KINDS)
+    void kindOf1IsTaken() {
+        isTaken(1, 5, 6);
+    }
+
+    @Case(KINDS)
+    void kindOf2IsTaken() {
+        isTaken(2, 5, 6);
+    }
+
+    @Case(KINDS)
+    void kindOf3IsTaken() {
+        isTaken(3, 5, 6);
+    }
+
+    @Case(KINDS)
+    void modeOf0IsTaken() {
+        isTaken(FILE, 0, 6);
+    }
+
+    @Case(KINDS)
+    void modeOf4095IsTaken() {
+        isTaken(FILE, 4095, 6);
+    }
+
+    @Case(KINDS)
+    void timeOf0IsTaken() {
+        isTaken(FILE, 5, 0);
+    }
+
+    @Case(KINDS)
+    void highestTimeIsTaken() {
+        isTaken(FILE, 5, HIGHEST);
+    }
+
+    @Case(ARGUMENTS)
+    void kindOf0IsNone() {
+        isNone(0, 0, 0);
+    }
+
+    @Case(ARGUMENTS)
+    void kindOf4IsNone() {
+        isNone(4, 0, 0);
+    }
+
+    @Case(ARGUMENTS)
+    void kindOfMinus1IsNone() {
+        isNone(-1, 0, 0);
+    }
+
+    @Case(ARGUMENTS)
+    void lowestKindIsNone() {
+        isNone(LOWEST, 0, 0);
+    }
+
+    @Case(ARGUMENTS)
+    void highestKindIsNone() {
+        isNone(HIGHEST, 0, 0);
+    }
+
+    @Case(ARGUMENTS)
+    void modeOfMinus1IsNone() {
+        isNone(FILE, -1, 0);
+    }
+
+    @Case(ARGUMENTS)
+    void modeOf4096IsNone() {
+        isNone(FILE, 4096, 0);
+    }
+
+    @Case(ARGUMENTS)
+    void lowestModeIsNone() {
+        isNone(FILE, LOWEST, 0);
+    }
+
+    @Case(ARGUMENTS)
+    void highestModeIsNone() {
+        isNone(FILE, HIGHEST, 0);
+    }
+
+    @Case(ARGUMENTS)
+    void timeOfMinus1IsNone() {
+        isNone(FILE, 0, -1);
+    }
+
+    @Case(ARGUMENTS)
+    void lowestTimeIsNone() {
+        isNone(FILE, 0, LOWEST);
+    }
+
+    @Case(ARGUMENTS)
+    void noPathIsRefusedAndTheChoiceStays() {
+        file("m");
+        refusedWithTape(ARGUMENT, "make of ..", () -> file(".."));
+        isChosen("m");
+    }
+
+    @Case(ARGUMENTS)
+    void emptyTapeIsNoPath() {
+        file("m");
+        refusedWithTape(ARGUMENT, "make of an empty tape", () -> x.make(FILE, 0, 0));
+        isChosen("m");
+    }
+
+    @Case(ARGUMENTS)
+    void fullTapeIsNoPath() {
+        refusedWithTape(ARGUMENT, "make of 400 bytes", () -> file("abcd/".repeat(80)));
+    }
+
+    @Case(STATES)
+    void underWayTheTapeStays() {
         x.begin(1);
-        Checks.tape(x, "f");
-        Checks.throwsState("make, under way", () -> x.make(1, 0, 0));
-        Checks.throwsState("a wrong kind, under way", () -> x.make(0, -1, -1));
-        Checks.same("the tape stays", x.about(8), 1);
+        tape("f");
+        refused(STATE, "make, under way", () -> x.make(FILE, 0, 0));
         x.step(200);
-        Checks.same("at rest again", x.make(1, 0, 0), 1);
+        same("make of what stayed", x.make(FILE, 0, 0), 1);
+        same("the source", paths(SOURCE), "f");
     }
 
-    private static void refusalKeepsTheChoice() {
-        MirrorKeep x = new MirrorKeep();
-        Checks.file(x, "m");
-        Checks.throwsState("make m again", () -> Checks.file(x, "m"));
-        Checks.throwsArgument("make ..", () -> Checks.file(x, ".."));
-        x.set(1, 2);
-        Checks.same("m is chosen still", Checks.tree(x, 0), "m 1 1 2 -");
-        Checks.file(x, "a");
-        x.set(3, 4);
-        Checks.same("a is chosen", Checks.tree(x, 0), "a 1 3 4 -; m 1 1 2 -");
-    }
-
-    private static void whileBroken() {
-        MirrorKeep x = new MirrorKeep();
+    @Case(STATES)
+    void underWayComesAheadOfAWrongKindModeOrTime() {
         x.begin(1);
-        x.step(1);
+        tape("f");
+        refused(STATE, "a wrong kind", () -> x.make(0, 0, 0));
+        refused(STATE, "a wrong mode", () -> x.make(FILE, 4096, 0));
+        refused(STATE, "a wrong time", () -> x.make(FILE, 0, -1));
+    }
+
+    @Case(STATES)
+    void underWayComesAheadOfNoPath() {
+        x.begin(1);
+        refused(STATE, "an empty tape", () -> x.make(FILE, 0, 0));
+        tape("..");
+        refused(STATE, "no path", () -> x.make(FILE, 0, 0));
+    }
+
+    @Case(STATES)
+    void underWayTheTapeStaysWhenItIsThere() {
+        file("f");
+        x.begin(1);
+        tape("f");
+        refused(STATE, "it is there", () -> x.make(FILE, 0, 0));
+    }
+
+    @Case(STATES)
+    void underWayTheTapeStaysWhenItsDirectoryIsNot() {
+        x.begin(1);
+        tape("d/f");
+        refused(STATE, "its directory is not", () -> x.make(FILE, 0, 0));
+    }
+
+    @Case(STATES)
+    void underWayTheChoiceStays() {
+        file("f");
+        x.begin(1);
+        tape("g");
+        thrown(STATE, "make, under way", () -> x.make(FILE, 0, 0));
+        x.step(200);
+        isChosen("f");
+    }
+
+    @Case(STATES)
+    void underWayBehindEachOperation() {
+        file("f");
+        x.begin(1);
+        tape("g");
+        for (int done = 0; done < 5; done++) {
+            thrown(STATE, "make behind " + done + " operations", () -> x.make(FILE, 0, 0));
+            x.step(1);
+        }
+        same("make behind COMMIT", x.make(FILE, 0, 0), 2);
+    }
+
+    @Case(STATES)
+    void brokenIsNotUnderWay() {
+        file("f");
+        x.begin(1);
+        x.step(2);
         x.crash();
-        Checks.same("make while broken", Checks.file(x, "a"), 1);
+        same("make while broken", file("g"), 2);
+        isChosen("g");
+    }
+
+    @Case(STATES)
+    void itIsThere() {
+        file("n");
+        file("m");
+        isRefused("n");
+        isChosen("m");
+    }
+
+    @Case(STATES)
+    void itIsThereWithAnotherKind() {
+        make("n", LINK, 3, 4);
+        write(0, "abc");
+        isRefused("n");
+        same("the source", tree(SOURCE), "n 3 3 4 abc");
+    }
+
+    @Case(STATES)
+    void itIsThereInADirectory() {
+        directory("d");
+        file("d/n");
+        isRefused("d/n");
+    }
+
+    @Case(STATES)
+    void whatOnlyTheMirrorHasIsNotThere() {
+        file("n");
+        keep(1);
+        x.remove();
+        same("make of n", file("n"), 1);
+    }
+
+    @Case(STATES)
+    void itsDirectoryIsNotThere() {
+        file("m");
+        isRefused("d/f");
+        isChosen("m");
+    }
+
+    @Case(STATES)
+    void itsDirectoryIsAFile() {
+        file("f");
+        isRefused("f/a");
+    }
+
+    @Case(STATES)
+    void itsDirectoryIsALink() {
+        link("l");
+        isRefused("l/a");
+    }
+
+    @Case(STATES)
+    void onlyTheDirectorysDirectoryIsThere() {
+        directory("d");
+        isRefused("d/e/a");
+    }
+
+    @Case(STATES)
+    void directoryOfAPathThatOnlyBeginsAlikeIsNotIts() {
+        directory("d");
+        directory("de");
+        isRefused("dd/a");
+        isRefused("def/a");
+    }
+
+    @Case(STATES)
+    void itsDirectoryIsOnlyInTheMirror() {
+        directory("d");
+        keep(1);
+        x.remove();
+        isRefused("d/a");
+    }
+
+    @Case(STATES)
+    void sixtiethEntryComes() {
+        directory("d");
+        files("d", 58);
+        same("make", file("last"), 60);
+        same("entries", x.about(3), 60);
+    }
+
+    @Case(STATES)
+    void sixtyFirstEntryIsRefused() {
+        sixty("d");
+        thrown(STATE, "make", () -> file("last"));
+        same("entries", x.about(3), 60);
+        same("bytes on the tape", x.about(8), 0);
+        same("what was chosen is so still", x.remove(), 1);
+        same("the entry that went", choose("d/59"), NONE);
+    }
+
+    @Case(STATES)
+    void sixtyFirstEntryComesBehindARemove() {
+        sixty("d");
+        removeAt("d/7");
+        same("make", file("last"), 60);
+    }
+
+    @Case(ARGUMENTS)
+    void wrongKindComesAheadOfItIsThere() {
+        file("n");
+        refusedWithTape(ARGUMENT, "a wrong kind", () -> make("n", 4, 0, 0));
+        refusedWithTape(ARGUMENT, "a wrong mode", () -> make("n", FILE, 4096, 0));
+        refusedWithTape(ARGUMENT, "a wrong time", () -> make("n", FILE, 0, -1));
+    }
+
+    @Case(ARGUMENTS)
+    void wrongKindComesAheadOfNoDirectory() {
+        refusedWithTape(ARGUMENT, "a wrong kind", () -> make("d/n", 0, 0, 0));
+        refusedWithTape(ARGUMENT, "a wrong mode", () -> make("d/n", FILE, -1, 0));
+        refusedWithTape(ARGUMENT, "a wrong time", () -> make("d/n", FILE, 0, -1));
+    }
+
+    @Case(ARGUMENTS)
+    void noPathComesAheadOfNoDirectory() {
+        refusedWithTape(ARGUMENT, "no path", () -> file("d/.."));
+    }
+
+    @Case(ARGUMENTS)
+    void argumentsComeAheadOfSixty() {
+        sixty("d");
+        thrown(ARGUMENT, "a wrong kind", () -> make("n", 4, 0, 0));
+        thrown(ARGUMENT, "a wrong mode", () -> make("n", FILE, 4096, 0));
+        thrown(ARGUMENT, "a wrong time", () -> make("n", FILE, 0, -1));
+        thrown(ARGUMENT, "no path", () -> file("."));
+        same("entries", x.about(3), 60);
+        same("bytes on the tape", x.about(8), 0);
     }
 }

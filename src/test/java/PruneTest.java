@@ -1,59 +1,159 @@
-/** Promise 15: sessions ahead of the latest one whose time is not above the one given are forgotten. */
-public final class PruneTest {
+/** Promise 15: prune. */
+public final class PruneTest extends KeepCases {
+    private static final String FORGOTTEN =
+        "Sessions ahead of the latest one whose time is not above that are forgotten: how many.";
+    private static final String STATES = "IllegalStateException: the repository is not AT REST.";
+
     public static void main(String[] args) {
-        pruned(9, 0, 10);
-        pruned(Integer.MIN_VALUE, 0, 10);
-        pruned(10, 0, 10);
-        pruned(19, 0, 10);
-        pruned(20, 1, 20);
-        pruned(29, 1, 20);
-        pruned(30, 2, 30);
-        pruned(Integer.MAX_VALUE, 2, 30);
-        whatIsLeft();
-        onlyAtRest();
-        Checks.finish();
+        run(PruneTest.class);
     }
 
-    private static void pruned(int time, int forgotten, int oldest) {
-        MirrorKeep x = RestoreTest.threeSessions();
-        String mirror = Checks.tree(x, 1);
-        Checks.same("prune(" + time + ")", x.prune(time), forgotten);
-        Checks.same("sessions", x.about(1), 3 - forgotten);
-        Checks.same("the oldest", x.session(0, 0), oldest);
-        Checks.same("the latest", x.session(2 - forgotten, 0), 30);
-        Checks.same("none behind it", x.session(3 - forgotten, 0), MirrorKeep.NONE);
-        Checks.same("the mirror is left alone", Checks.tree(x, 1), mirror);
-        Checks.same("once more", x.prune(time), 0);
-        Checks.throwsState("ahead of the oldest", () -> x.restore(oldest - 1));
-        Checks.same("of the latest", x.restore(30), 1);
+    private void forgets(int time, int forgotten) {
+        threeSessions();
+        x.restore(10);
+        tape("t");
+        int[] increments = {5, 2, 0};
+        String[] trees = {tree(SOURCE), tree(MIRROR), tree(RESULT)};
+        same("prune(" + time + ")", x.prune(time), forgotten);
+        same("sessions", x.about(1), 3 - forgotten);
+        same("time of the oldest", x.session(0, 0), 10 * (forgotten + 1));
+        same("changes to the oldest", x.session(0, 1), NONE);
+        same("time of the latest", x.session(2 - forgotten, 0), 30);
+        same("none behind it", x.session(3 - forgotten, 0), NONE);
+        same("increments", x.about(7), increments[forgotten]);
+        for (int tree = SOURCE; tree <= RESULT; tree++) {
+            same("tree " + tree, tree(tree), trees[tree]);
+        }
+        same("bytes on the tape", x.about(8), 1);
     }
 
-    private static void whatIsLeft() {
-        MirrorKeep x = RestoreTest.threeSessions();
-        Checks.same("increments", x.about(7), 5);
+    @Case(FORGOTTEN)
+    void lowestTime() {
+        forgets(LOWEST, 0);
+    }
+
+    @Case(FORGOTTEN)
+    void timeBelow0() {
+        forgets(-1, 0);
+    }
+
+    @Case(FORGOTTEN)
+    void timeJustBelowTheOldest() {
+        forgets(9, 0);
+    }
+
+    @Case(FORGOTTEN)
+    void timeOfTheOldest() {
+        forgets(10, 0);
+    }
+
+    @Case(FORGOTTEN)
+    void timeJustBelowTheSecond() {
+        forgets(19, 0);
+    }
+
+    @Case(FORGOTTEN)
+    void timeOfTheSecond() {
+        forgets(20, 1);
+    }
+
+    @Case(FORGOTTEN)
+    void timeJustBelowTheLatest() {
+        forgets(29, 1);
+    }
+
+    @Case(FORGOTTEN)
+    void timeOfTheLatest() {
+        forgets(30, 2);
+    }
+
+    @Case(FORGOTTEN)
+    void highestTime() {
+        forgets(HIGHEST, 2);
+    }
+
+    @Case(FORGOTTEN)
+    void withoutASessionItIs0() {
+        same("prune(5)", x.prune(5), 0);
+        same("prune(highest)", x.prune(HIGHEST), 0);
+    }
+
+    @Case(FORGOTTEN)
+    void theOnlySessionStays() {
+        keep(5);
+        same("prune(5)", x.prune(5), 0);
+        same("prune(highest)", x.prune(HIGHEST), 0);
+        same("sessions", x.about(1), 1);
+    }
+
+    @Case(FORGOTTEN)
+    void thirtyNineOf40() {
+        sessions(40);
+        same("prune(39)", x.prune(39), 39);
+        same("sessions", x.about(1), 1);
+        same("time of the oldest", x.session(0, 0), 39);
+    }
+
+    @Case(FORGOTTEN)
+    void thirtyEightOf40() {
+        sessions(40);
+        same("prune(38)", x.prune(38), 38);
+        same("sessions", x.about(1), 2);
+        same("time of the oldest", x.session(0, 0), 38);
+        same("time of the latest", x.session(1, 0), 39);
+    }
+
+    @Case(FORGOTTEN)
+    void onceMoreItIs0() {
+        threeSessions();
         x.prune(20);
-        Checks.same("increments", x.about(7), 2);
-        Checks.same("changes of the oldest", x.session(0, 1), MirrorKeep.NONE);
-        Checks.same("changes of the latest", x.session(1, 1), 2);
-        Checks.same("restore(29)", x.restore(29), 3);
-        Checks.same("the result", Checks.tree(x, 2), "a 1 1 1 ONE!; d 2 0 0 -; d/l 3 0 0 a");
-        x.prune(30);
-        Checks.same("increments", x.about(7), 0);
-        Checks.file(x, "new");
-        Checks.same("goes on", Checks.keep(x, 31), 5);
-        Checks.same("changes of the new one", x.session(1, 1), 1);
+        same("prune(20)", x.prune(20), 0);
+        same("prune(10)", x.prune(10), 0);
+        same("prune(30)", x.prune(30), 1);
     }
 
-    private static void onlyAtRest() {
-        MirrorKeep x = RestoreTest.threeSessions();
+    @Case(FORGOTTEN)
+    void treesOfTheOthersStay() {
+        threeSessions();
+        x.prune(25);
+        same("restore(20)", x.restore(20), 3);
+        same("the result", tree(RESULT), "a 1 1 1 ONE!; d 2 0 0 -; d/l 3 0 0 a");
+        same("restore(30)", x.restore(30), 1);
+        same("the result", tree(RESULT), "d 2 0 0 -");
+    }
+
+    @Case(FORGOTTEN)
+    void sessionsGoOnBehindIt() {
+        threeSessions();
+        x.prune(30);
+        file("new");
+        same("operations", keep(31), 5);
+        same("time of the latest", x.session(1, 0), 31);
+        same("changes to it", x.session(1, 1), 1);
+        same("increments", x.about(7), 1);
+    }
+
+    @Case(STATES)
+    void underWayIsRefused() {
+        threeSessions();
         x.begin(40);
-        Checks.throwsState("under way", () -> x.prune(30));
+        refused(STATE, "prune(30)", () -> x.prune(30));
+    }
+
+    @Case(STATES)
+    void brokenIsRefused() {
+        threeSessions();
+        x.begin(40);
         x.step(1);
         x.crash();
-        Checks.throwsState("broken", () -> x.prune(30));
-        Checks.same("none is forgotten", x.about(1), 3);
+        refused(STATE, "prune(30)", () -> x.prune(30));
         x.regress(1);
-        Checks.same("at rest", x.prune(30), 2);
-        Checks.same("no session", new MirrorKeep().prune(5), 0);
+        same("prune(30), at rest", x.prune(30), 2);
+    }
+
+    @Case(STATES)
+    void underWayIsRefusedThoughNoneWouldBeForgotten() {
+        x.begin(1);
+        refused(STATE, "prune(0)", () -> x.prune(0));
     }
 }

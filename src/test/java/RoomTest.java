@@ -3,40 +3,51 @@ import java.lang.management.ManagementFactory;
 
 /**
  * All calls of a run live in one room of 7.3 million fields and elements and 600,000 objects. A field or an element
- * is a byte at least, and an object sixteen, so a run that takes fewer bytes than that keeps to the room.
+ * is a byte at least, and an object sixteen, so a run that takes fewer bytes than that keeps to the room. The runs
+ * here have more than an object's 512 calls, to be dearer than any that counts.
  */
-public final class RoomTest {
+public final class RoomTest extends KeepCases {
     private static final long ROOM = 7_300_000;
     private static final int CALLS = 512;
 
     public static void main(String[] args) {
-        Checks.same("writes of a long content stay in the room", inRoom(RoomTest::writes), 1);
-        Checks.same("sessions stay in the room", inRoom(RoomTest::sessions), 1);
-        Checks.same("looks stay in the room", inRoom(RoomTest::looks), 1);
-        Checks.finish();
+        run(RoomTest.class);
     }
 
-    private static int inRoom(Runnable run) {
+    @Case("at most 512 calls")
+    void writesOfALongContent() {
+        isInRoom(() -> new RoomTest().writes());
+    }
+
+    @Case("at most 512 calls")
+    void sessions() {
+        isInRoom(() -> new RoomTest().sessionsAndPrunes());
+    }
+
+    @Case("at most 512 calls")
+    void looks() {
+        isInRoom(() -> new RoomTest().looksAtFullTrees());
+    }
+
+    private void isInRoom(Runnable run) {
         ThreadMXBean threads = (ThreadMXBean) ManagementFactory.getThreadMXBean();
+        // What is taken only once, to load classes, is no part of a run.
         run.run();
         long before = threads.getCurrentThreadAllocatedBytes();
         run.run();
         long taken = threads.getCurrentThreadAllocatedBytes() - before;
-        System.out.println(taken + " bytes taken");
-        return taken < ROOM ? 1 : 0;
+        same("a run that took " + taken + " bytes is in the room", taken < ROOM ? 1 : 0, 1);
     }
 
-    private static void writes() {
-        MirrorKeep x = new MirrorKeep();
-        Checks.file(x, "f");
-        Checks.fill(x, 1500);
+    private void writes() {
+        file("f");
+        fill(1500);
         for (int i = 0; i < CALLS; i++) {
             x.write(0);
         }
     }
 
-    private static void sessions() {
-        MirrorKeep x = new MirrorKeep();
+    private void sessionsAndPrunes() {
         for (int i = 0; i < CALLS / 2; i++) {
             x.begin(i);
             x.step(200);
@@ -46,17 +57,16 @@ public final class RoomTest {
         }
     }
 
-    private static void looks() {
-        MirrorKeep x = new MirrorKeep();
-        Checks.sixty(x, "d");
-        Checks.keep(x, 1);
-        Checks.choose(x, "d/7");
+    private void looksAtFullTrees() {
+        sixty("d");
+        keep(1);
+        choose("d/7");
         x.set(1, 1);
         for (int i = 0; i < CALLS; i++) {
             x.differ();
             x.restore(1);
             x.about(i);
-            x.entry(2, i, 0);
+            x.entry(RESULT, i, 0);
         }
     }
 }

@@ -1,110 +1,246 @@
-/** Promise 11: the session does its next operations, in the document's order. */
-public final class StepTest {
+/** Promise 11: step. */
+public final class StepTest extends KeepCases {
+    private static final String DOES = "The session that is UNDER WAY does its next n OPERATIONS (n 0 .. 200), as many "
+        + "as there are: how many.";
+    private static final String STATES = "IllegalStateException: none is.";
+    private static final String ANOTHER = "IllegalArgumentException: another n.";
+    private static final String OPERATIONS = "A session does, one after the other, these OPERATIONS: MARK; for each "
+        + "CHANGE, these in order of their paths: its INCREMENT (which leads back), then its UPDATE in the mirror; "
+        + "SNAPSHOT (of what is told of all entries); COMMIT: it counts, the repository is AT REST.";
     private static final String OLD = "a 1 0 0 one; b 1 0 0 two";
     private static final String NEW = "a 1 0 0 ONE; c 2 7 7 -";
 
     public static void main(String[] args) {
-        oneByOne();
-        inOrderOfPaths();
-        asManyAsThereAre();
-        wrong();
-        moreThanTwoHundred();
-        Checks.finish();
+        run(StepTest.class);
     }
 
-    /** A session that changes a, removes b and makes c. */
-    static MirrorKeep threeChanges() {
-        MirrorKeep x = new MirrorKeep();
-        Checks.file(x, "a");
-        Checks.write(x, 0, "one");
-        Checks.file(x, "b");
-        Checks.write(x, 0, "two");
-        Checks.keep(x, 1);
-        Checks.choose(x, "a");
-        Checks.write(x, 0, "ONE");
-        Checks.choose(x, "b");
-        x.remove();
-        Checks.make(x, "c", 2, 7, 7);
-        x.begin(2);
-        return x;
+    private void isAnother(int n) {
+        threeChanges();
+        x.step(2);
+        refused(ARGUMENT, "step(" + n + ")", () -> x.step(n));
+        same("step(200)", x.step(200), 7);
     }
 
-    private static void oneByOne() {
-        MirrorKeep x = threeChanges();
-        String[] mirrors = {OLD, OLD, "a 1 0 0 ONE; b 1 0 0 two", "a 1 0 0 ONE; b 1 0 0 two", "a 1 0 0 ONE",
-            "a 1 0 0 ONE", NEW, NEW};
-        int[] increments = {0, 1, 1, 2, 2, 3, 3, 3};
-        for (int i = 0; i < mirrors.length; i++) {
-            Checks.same("step(1)", x.step(1), 1);
-            Checks.same("mirror behind operation " + (i + 1), Checks.tree(x, 1), mirrors[i]);
-            Checks.same("increments behind operation " + (i + 1), x.about(7), increments[i]);
-            Checks.same("operations done", x.about(2), i + 1);
-            Checks.same("state", x.about(0), 1);
-            Checks.same("sessions", x.about(1), 1);
+    private void behind(int done, String mirror, int increments) {
+        threeChanges();
+        same("step", x.step(done), done);
+        same("the mirror", tree(MIRROR), mirror);
+        same("increments", x.about(7), increments);
+        same("operations done", x.about(2), done);
+        same("state", x.about(0), UNDER_WAY);
+        same("sessions", x.about(1), 1);
+    }
+
+    @Case(OPERATIONS)
+    void operation1IsMark() {
+        behind(1, OLD, 0);
+    }
+
+    @Case(OPERATIONS)
+    void operation2IsTheFirstIncrement() {
+        behind(2, OLD, 1);
+    }
+
+    @Case(OPERATIONS)
+    void operation3IsTheFirstUpdate() {
+        behind(3, "a 1 0 0 ONE; b 1 0 0 two", 1);
+    }
+
+    @Case(OPERATIONS)
+    void operation4IsTheSecondIncrement() {
+        behind(4, "a 1 0 0 ONE; b 1 0 0 two", 2);
+    }
+
+    @Case(OPERATIONS)
+    void operation5IsTheSecondUpdate() {
+        behind(5, "a 1 0 0 ONE", 2);
+    }
+
+    @Case(OPERATIONS)
+    void operation6IsTheThirdIncrement() {
+        behind(6, "a 1 0 0 ONE", 3);
+    }
+
+    @Case(OPERATIONS)
+    void operation7IsTheThirdUpdate() {
+        behind(7, NEW, 3);
+    }
+
+    @Case(OPERATIONS)
+    void operation8IsSnapshot() {
+        behind(8, NEW, 3);
+    }
+
+    @Case(OPERATIONS)
+    void operation9IsCommit() {
+        threeChanges();
+        x.step(8);
+        same("step(1)", x.step(1), 1);
+        same("state", x.about(0), AT_REST);
+        same("operations done", x.about(2), 0);
+        same("sessions", x.about(1), 2);
+        same("time of the latest", x.session(1, 0), 2);
+        same("changes to the latest", x.session(1, 1), 3);
+        same("the mirror", tree(MIRROR), NEW);
+        same("increments", x.about(7), 3);
+    }
+
+    @Case(OPERATIONS)
+    void updatesAreInOrderOfThePaths() {
+        for (String path : new String[] {"a-", "b\u00ff", "b\u007f"}) {
+            file(path);
         }
-        Checks.same("COMMIT", x.step(1), 1);
-        Checks.same("state", x.about(0), 0);
-        Checks.same("operations done", x.about(2), 0);
-        Checks.same("sessions", x.about(1), 2);
-        Checks.same("mirror", Checks.tree(x, 1), NEW);
-        Checks.same("increments", x.about(7), 3);
-    }
-
-    private static void inOrderOfPaths() {
-        MirrorKeep x = new MirrorKeep();
-        Checks.file(x, "a-");
-        Checks.file(x, "b\u00ff");
-        Checks.file(x, "b\u007f");
-        Checks.directory(x, "a");
-        Checks.file(x, "a/z");
+        directory("a");
+        file("a/z");
         x.begin(1);
-        String[] mirrors = {"a", "a a/z", "a a/z a-", "a a/z a- b\u007f", "a a/z a- b\u007f b\u00ff"};
         x.step(1);
-        for (String mirror : mirrors) {
+        for (String mirror : new String[] {"a", "a a/z", "a a/z a-", "a a/z a- b\u007f", "a a/z a- b\u007f b\u00ff"}) {
             x.step(2);
-            Checks.same("mirror", Checks.paths(x, 1), mirror);
+            same("the mirror", paths(MIRROR), mirror);
         }
     }
 
-    private static void asManyAsThereAre() {
-        MirrorKeep x = threeChanges();
-        Checks.same("step(0)", x.step(0), 0);
-        Checks.same("none is done", x.about(2), 0);
-        Checks.same("step(4)", x.step(4), 4);
-        Checks.same("step(200)", x.step(200), 5);
-        Checks.throwsState("none is under way", () -> x.step(200));
-    }
-
-    private static void wrong() {
-        MirrorKeep x = new MirrorKeep();
-        Checks.throwsState("at rest", () -> x.step(1));
-        Checks.throwsState("at rest, a wrong n", () -> x.step(-1));
+    @Case(OPERATIONS)
+    void withoutChangesSnapshotIsBehindMark() {
         x.begin(1);
-        int[] wrong = {-1, 201, Integer.MIN_VALUE, Integer.MAX_VALUE};
-        for (int n : wrong) {
-            Checks.throwsArgument("step(" + n + ")", () -> x.step(n));
+        for (int done = 0; done < 3; done++) {
+            same("operations done", x.about(2), done);
+            same("increments", x.about(7), 0);
+            same("state", x.about(0), UNDER_WAY);
+            x.step(1);
         }
-        Checks.same("none is done", x.about(2), 0);
-        x.step(1);
-        x.crash();
-        Checks.throwsState("broken", () -> x.step(1));
-        Checks.throwsState("broken, a wrong n", () -> x.step(201));
+        same("state", x.about(0), AT_REST);
+        same("sessions", x.about(1), 1);
     }
 
-    private static void moreThanTwoHundred() {
-        MirrorKeep x = new MirrorKeep();
-        Checks.sixty(x, "b");
-        Checks.keep(x, 1);
-        Checks.choose(x, "b");
-        x.remove();
-        Checks.sixty(x, "a");
-        x.begin(2);
+    @Case(DOES)
+    void nOf0DoesNothing() {
+        threeChanges();
+        String before = told();
+        same("step(0)", x.step(0), 0);
+        same("all", told(), before);
+    }
+
+    @Case(DOES)
+    void nOf0AheadOfCommitDoesNothing() {
+        threeChanges();
+        x.step(8);
+        same("step(0)", x.step(0), 0);
+        same("state", x.about(0), UNDER_WAY);
+    }
+
+    @Case(DOES)
+    void oneFewerThanThereAreLeavesCommit() {
+        threeChanges();
+        same("step(8)", x.step(8), 8);
+        same("state", x.about(0), UNDER_WAY);
+        same("operations done", x.about(2), 8);
+    }
+
+    @Case(DOES)
+    void asManyAsThereAre() {
+        threeChanges();
+        same("step(9)", x.step(9), 9);
+        same("state", x.about(0), AT_REST);
+    }
+
+    @Case(DOES)
+    void oneMoreThanThereAre() {
+        threeChanges();
+        same("step(10)", x.step(10), 9);
+        same("state", x.about(0), AT_REST);
+        same("sessions", x.about(1), 2);
+    }
+
+    @Case(DOES)
+    void restOfThem() {
+        threeChanges();
+        x.step(4);
+        same("step(200)", x.step(200), 5);
+    }
+
+    @Case(DOES)
+    void nOf200Of243Does200() {
+        mostChanges("a", "b");
+        same("step(200)", x.step(200), 200);
+        same("operations done", x.about(2), 200);
+        same("state", x.about(0), UNDER_WAY);
+        same("step(200)", x.step(200), 43);
+        same("state", x.about(0), AT_REST);
+        same("entries of the mirror", x.about(4), 60);
+    }
+
+    @Case(DOES)
+    void mirrorHasAllThatComesAndAllThatGoes() {
+        mostChanges("a", "b");
+        same("step(121)", x.step(121), 121);
+        same("entries of the mirror", x.about(4), 120);
+        same("its first entry", x.entry(MIRROR, 0, 0), DIRECTORY);
+        same("its last entry", x.entry(MIRROR, 119, 0), FILE);
+        same("none behind it", x.entry(MIRROR, 120, 0), NONE);
+        x.step(122);
+        same("entries of the mirror", x.about(4), 60);
+        same("differ()", x.differ(), 0);
+    }
+
+    @Case(DOES)
+    void mirrorIsEmptyOnceAllThatGoesWent() {
+        mostChanges("b", "a");
         x.step(121);
-        Checks.same("all that came and all that will go", x.about(4), 120);
-        Checks.same("the last entry", x.entry(1, 119, 0), 1);
-        Checks.same("step(200)", x.step(200), 122);
-        Checks.same("entries then", x.about(4), 60);
-        Checks.same("changes left", x.differ(), 0);
-        Checks.same("the last entry", Checks.path(x, 1, 59), "a/9");
+        same("entries of the mirror", x.about(4), 0);
+        x.step(122);
+        same("entries of the mirror", x.about(4), 60);
+    }
+
+    @Case(ANOTHER)
+    void nOfMinus1IsRefused() {
+        isAnother(-1);
+    }
+
+    @Case(ANOTHER)
+    void nOf201IsRefused() {
+        isAnother(201);
+    }
+
+    @Case(ANOTHER)
+    void lowestNIsRefused() {
+        isAnother(LOWEST);
+    }
+
+    @Case(ANOTHER)
+    void highestNIsRefused() {
+        isAnother(HIGHEST);
+    }
+
+    @Case(STATES)
+    void newObjectIsRefused() {
+        refused(STATE, "step(1)", () -> x.step(1));
+    }
+
+    @Case(STATES)
+    void atRestIsRefused() {
+        file("f");
+        keep(1);
+        refused(STATE, "step(1)", () -> x.step(1));
+        refused(STATE, "step(0)", () -> x.step(0));
+    }
+
+    @Case(STATES)
+    void brokenIsRefused() {
+        brokenBehind(3);
+        refused(STATE, "step(1)", () -> x.step(1));
+    }
+
+    @Case(STATES)
+    void atRestComesAheadOfAnotherN() {
+        refused(STATE, "step(-1)", () -> x.step(-1));
+        refused(STATE, "step(201)", () -> x.step(201));
+    }
+
+    @Case(STATES)
+    void brokenComesAheadOfAnotherN() {
+        brokenBehind(3);
+        thrown(STATE, "step(-1)", () -> x.step(-1));
+        thrown(STATE, "step(201)", () -> x.step(201));
     }
 }
