@@ -5,6 +5,13 @@ public final class TermsTest extends KeepCases {
     private static final String ORDER =
         "ORDER of paths: name by name, byte by byte (0 .. 255); what is at an end first.";
     private static final String OWN = "each with a path of its own";
+    private static final String TREE = "A TREE has at most 60 ENTRIES";
+    private static final String CONTENT = "but for a DIRECTORY, CONTENT";
+    private static final String DIRECTORIES = "In THE SOURCE each entry of a path of several names has a DIRECTORY with "
+        + "the path of all names but the last.";
+    private static final String SESSIONS =
+        "SESSIONS, at most 40, each with a time and the tree that THE SOURCE was then";
+    private static final String CALLS = "An object is used for at most 512 calls after it has been made";
     private static final String MIRRORED = "the mirror is that of the latest one, if none is under way or BROKEN";
 
     public static void main(String[] args) {
@@ -236,6 +243,77 @@ public final class TermsTest extends KeepCases {
         isPath("a");
         isPath("abc");
         same("entries", x.about(3), 4);
+    }
+
+    @Case(TREE)
+    void treeOf60EntriesIsFull() {
+        directory("d");
+        files("d", 58);
+        same("the 60th entry", file("d/60"), 60);
+        thrown(STATE, "the 61st entry", () -> file("d/61"));
+        keep(1);
+        same("entries of the mirror", x.about(4), 60);
+        same("entries of the result", x.restore(1), 60);
+    }
+
+    @Case(CONTENT)
+    void directoryHasNoContent() {
+        directory("d");
+        thrown(STATE, "write into a directory", () -> write(0, "a"));
+        same("how long its content is", x.entry(SOURCE, 0, 3), 0);
+        same("its first byte", x.at(SOURCE, 0, false, 0), NONE);
+    }
+
+    @Case(DIRECTORIES)
+    void directoryOfEachLevelIsThere() {
+        String path = "1/2/3/4/5/6";
+        for (int length = 1; length < path.length(); length += 2) {
+            thrown(STATE, "make of " + path, () -> file(path));
+            directory(path.substring(0, length));
+        }
+        same("make of " + path, file(path), 6);
+    }
+
+    @Case(DIRECTORIES)
+    void noEntryStaysWithoutItsDirectory() {
+        directoriesDownTo("1/2/3/4/5/6");
+        removeAt("1/2");
+        same("the source", paths(SOURCE), "1");
+        same("choose of 1/2/3", choose("1/2/3"), NONE);
+        thrown(STATE, "make of 1/2/3", () -> file("1/2/3"));
+    }
+
+    @Case(SESSIONS)
+    void sessionsTreeIsWhatTheSourceWasThen() {
+        fileOf("f", "one");
+        keep(1);
+        write(0, "two");
+        keep(2);
+        x.set(5, 6);
+        x.restore(1);
+        same("the first tree", tree(RESULT), "f 1 0 0 one");
+        x.restore(2);
+        same("the second tree", tree(RESULT), "f 1 0 0 two");
+    }
+
+    @Case(SESSIONS)
+    void sessionsAre40AtMost() {
+        sessions(39);
+        same("begin of the 40th", x.begin(39), 3);
+        x.step(200);
+        thrown(STATE, "begin of the 41st", () -> x.begin(40));
+        same("sessions", x.about(1), 40);
+    }
+
+    @Case(CALLS)
+    void call512IsAnsweredLikeTheOthers() {
+        fileOf("f", "abc");
+        int calls = 6;
+        while (calls < 511) {
+            x.differ();
+            calls++;
+        }
+        same("the 512th call", x.begin(1), 5);
     }
 
     @Case(MIRRORED)
