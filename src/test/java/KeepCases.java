@@ -1,5 +1,3 @@
-import java.nio.charset.StandardCharsets;
-
 /**
  * A test of MirrorKeep: each case has a new one, x, and short ways to fill it and to look at it. An object has 512
  * calls, and looking takes a call for each byte, so the trees that are looked at whole are small.
@@ -24,18 +22,9 @@ abstract class KeepCases extends Cases {
 
     final MirrorKeep x = new MirrorKeep();
 
-    /** Puts the text's bytes behind those on the tape. */
+    /** Puts the text's bytes behind those on the tape, as README.md shows it. */
     void tape(String text) {
-        byte[] bytes = text.getBytes(StandardCharsets.ISO_8859_1);
-        for (int from = 0; from < bytes.length; from += 20) {
-            int[] words = new int[5];
-            int n = Math.min(20, bytes.length - from);
-            for (int i = 0; i < n; i++) {
-                words[i / 4] |= (bytes[from + i] & 255) << (24 - 8 * (i % 4));
-            }
-            x.feed(words[0], words[1], words[2], words[3], words[4]);
-            x.end(n);
-        }
+        Example.tape(x, text);
     }
 
     /** Puts that many zeros behind those on the tape, in few calls. */
